@@ -148,6 +148,22 @@ public final class PromiseTest {
         due("4 third", x.need(0, 61, 9, 9), 3);
         due("4 fourth", x.need(0, 5, 1, 1), -4);
         due("4 other unit", x.need(1, 0, 1, 1), 1);
+        needsOfTen();
+    }
+
+    /** Every place for a need is used, and the last one is kept apart from the others. */
+    private static void needsOfTen() {
+        ProvisionAgent x = plain(10);
+        for (int u = 0; u < 10; u++) {
+            for (int i = 0; i < 3; i++) {
+                int kind = u == 9 && i == 2 ? 5 : 32 + i;
+                due("4 need " + i + " of " + u, x.need(u, kind, 1, 9), i + 1);
+            }
+        }
+        due("4 all but the last unit", x.sound(511), 1);
+        due("4 the last need of the last unit", x.sound(512), 0);
+        x.offer(0, 5, 1);
+        due("4 met now", x.sound(513), 1);
     }
 
     private static void environment() {
@@ -388,6 +404,7 @@ public final class PromiseTest {
         x.need(3, 1, 1, 9);
         x.offer(4, 1, 9);
         due("12 nothing", x.excess(0, 0), 0);
+        due("12 the first alone", x.excess(1, 0), 0);
         due("12 rivals", x.excess(3, 0), 1);
         due("12 three rivals", x.excess(7, 0), 2);
         due("12 needs a barred one", x.excess(8, 16), 1);
@@ -461,6 +478,17 @@ public final class PromiseTest {
         due("14 note stays", x.note(0), 7);
         due("14 then it succeeds", x.apply(24, 7), 5);
         touches("14 then it succeeds", x, 6, 8, 10, 3, 1);
+        failWithTen();
+    }
+
+    private static void failWithTen() {
+        ProvisionAgent x = plain(10);
+        due("14 ten in, all but the last", x.fail(1023, 0, 9), 18);
+        touches("14 ten in, all but the last", x, 2, 2, 2, 2, 2, 2, 2, 2, 2, 0);
+        due("14 ten in, no step 10", x.fail(1023, 0, 10), -3);
+        x.apply(1023, 0);
+        due("14 ten out, all but the last", x.fail(0, 1023, 9), 18);
+        touches("14 ten out, all but the last", x, 3, 5, 5, 5, 5, 5, 5, 5, 5, 3);
     }
 
     private static void touches(String what, ProvisionAgent x, int... counts) {
