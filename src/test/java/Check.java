@@ -2,13 +2,30 @@
 final class Check {
     private int wrong;
     private int asked;
+    private String sentence = "";
+
+    /** The document's words that the checks from here on are about; they are printed with every wrong answer. */
+    void sentence(String words) {
+        sentence = "[" + words + "] ";
+    }
 
     void due(String what, int got, int want) {
+        same(what, "answered " + got, "answered " + want);
+    }
+
+    void same(String what, String got, String want) {
         asked++;
-        if (got != want) {
+        if (!got.equals(want)) {
             wrong++;
-            System.out.println(what + " answered " + got + ", due is " + want);
+            System.out.println(sentence + what + ": " + got + ", due is: " + want);
         }
+    }
+
+    /** The call answers as due, and an agent that got it goes on exactly as one that did not. */
+    void changesNothing(String what, Twins.Kind kind, int want, Twins.Call call) {
+        ProvisionAgent with = Twins.made(kind);
+        due(what, call.on(with), want);
+        same(what + ", and then", Twins.firstDifference(with, Twins.made(kind)), "no difference");
     }
 
     boolean clean() {

@@ -1,7 +1,7 @@
 /** For each promise the ordinary inputs, the edges that the document names, and wrong inputs. */
 public final class PromiseTest {
     private static final Check CHECK = new Check();
-    private static final int[] FAR = {Integer.MIN_VALUE, -1000, -1, 1 << 30, Integer.MAX_VALUE};
+    private static final int[] FAR = Agents.FAR;
 
     public static void main(String[] args) {
         newObject();
@@ -34,20 +34,6 @@ public final class PromiseTest {
 
     private static void due(String what, int got, int want) {
         CHECK.due(what, got, want);
-    }
-
-    /** Units that are not single; after the fifth the names come again, with version 2. */
-    private static ProvisionAgent plain(int count) {
-        ProvisionAgent x = new ProvisionAgent();
-        for (int u = 0; u < count; u++) {
-            due("plain unit", x.unit(u % 5, 1 + u / 5, 0), u);
-        }
-        return x;
-    }
-
-    /** Five units of different names and equal versions: every set is sound, and no version counts. */
-    private static ProvisionAgent five() {
-        return plain(5);
     }
 
     private static void newObject() {
@@ -98,7 +84,7 @@ public final class PromiseTest {
     }
 
     private static void offer() {
-        ProvisionAgent x = plain(2);
+        ProvisionAgent x = Agents.plain(2);
         due("3 unit -1", x.offer(-1, 0, 1), -1);
         due("3 unit 2", x.offer(2, 0, 1), -1);
         due("3 capability -1", x.offer(0, -1, 1), -2);
@@ -124,7 +110,7 @@ public final class PromiseTest {
     }
 
     private static void need() {
-        ProvisionAgent x = plain(2);
+        ProvisionAgent x = Agents.plain(2);
         due("4 unit -1", x.need(-1, 0, 1, 1), -1);
         due("4 unit 2", x.need(2, 0, 1, 1), -1);
         due("4 kind -1", x.need(0, -1, 1, 1), -2);
@@ -153,7 +139,7 @@ public final class PromiseTest {
 
     /** Every place for a need is used, and the last one is kept apart from the others. */
     private static void needsOfTen() {
-        ProvisionAgent x = plain(10);
+        ProvisionAgent x = Agents.plain(10);
         for (int u = 0; u < 10; u++) {
             for (int i = 0; i < 3; i++) {
                 int kind = u == 9 && i == 2 ? 5 : 32 + i;
@@ -180,7 +166,7 @@ public final class PromiseTest {
             before = bits;
         }
         for (int condition = 0; condition <= 3; condition++) {
-            ProvisionAgent y = plain(2);
+            ProvisionAgent y = Agents.plain(2);
             y.need(0, 8 * condition, 1, 9);
             y.need(1, 32 + 8 * condition, 1, 9);
             for (int bits = 0; bits <= 7; bits++) {
@@ -204,7 +190,7 @@ public final class PromiseTest {
     }
 
     private static void profile() {
-        ProvisionAgent x = five();
+        ProvisionAgent x = Agents.five();
         due("7 empty", x.profile(), 0);
         x.apply(21, 0);
         due("7 applied", x.profile(), 21);
@@ -244,7 +230,7 @@ public final class PromiseTest {
     }
 
     private static void soundNeeds() {
-        ProvisionAgent x = plain(4);
+        ProvisionAgent x = Agents.plain(4);
         x.offer(0, 2, 5);
         x.need(0, 2, 5, 5);
         due("8 meets its own need", x.sound(1), 1);
@@ -266,12 +252,12 @@ public final class PromiseTest {
 
     private static void soundRanges() {
         for (int version = 1; version <= 9; version++) {
-            ProvisionAgent x = plain(2);
+            ProvisionAgent x = Agents.plain(2);
             x.offer(1, 5, version);
             x.need(0, 5, 3, 7);
             due("8 range with " + version, x.sound(3), version >= 3 && version <= 7 ? 1 : 0);
         }
-        ProvisionAgent y = plain(2);
+        ProvisionAgent y = Agents.plain(2);
         y.offer(1, 0, 9);
         y.offer(1, 2, 1);
         y.need(0, 1, 1, 9);
@@ -308,7 +294,7 @@ public final class PromiseTest {
     }
 
     private static void costOfOptions() {
-        ProvisionAgent x = plain(3);
+        ProvisionAgent x = Agents.plain(3);
         x.need(0, 32, 2, 3);
         x.need(0, 32, 2, 3);
         x.need(0, 33, 1, 9);
@@ -353,7 +339,7 @@ public final class PromiseTest {
         x.apply(5, 2);
         due("10 the profile counts", x.plan(1, 0), 5);
         due("10 kept though not wanted", x.plan(0, 0), 5);
-        ProvisionAgent y = plain(10);
+        ProvisionAgent y = Agents.plain(10);
         due("10 ten units", y.plan(1023, 0), 1023);
         due("10 1024", y.plan(1024, 0), -1);
         due("10 all barred", y.plan(0, 1023), 0);
@@ -423,7 +409,7 @@ public final class PromiseTest {
             due("12 far barred", x.excess(0, far), -1);
         }
         // Two wanted units need the barred one: giving up that single demand is cheaper than giving up both.
-        ProvisionAgent y = plain(3);
+        ProvisionAgent y = Agents.plain(3);
         y.need(0, 0, 1, 9);
         y.need(1, 0, 1, 9);
         y.offer(2, 0, 1);
@@ -431,7 +417,7 @@ public final class PromiseTest {
     }
 
     private static void apply() {
-        ProvisionAgent x = five();
+        ProvisionAgent x = Agents.five();
         due("13 wanted too great", x.apply(32, 0), -1);
         due("13 barred too great", x.apply(0, 32), -1);
         for (int far : FAR) {
@@ -446,11 +432,11 @@ public final class PromiseTest {
         due("13 no step", x.apply(2, 16), 0);
         due("13 noted", x.notes(), 3);
         due("13 all out", x.apply(0, 31), 3);
-        due("13 ten in", plain(10).apply(1023, 0), 10);
+        due("13 ten in", Agents.plain(10).apply(1023, 0), 10);
     }
 
     private static void fail() {
-        ProvisionAgent x = five();
+        ProvisionAgent x = Agents.five();
         x.apply(7, 0);
         due("14 wanted too great", x.fail(32, 0, 0), -1);
         due("14 barred too great", x.fail(0, 32, 0), -1);
@@ -482,7 +468,7 @@ public final class PromiseTest {
     }
 
     private static void failWithTen() {
-        ProvisionAgent x = plain(10);
+        ProvisionAgent x = Agents.plain(10);
         due("14 ten in, all but the last", x.fail(1023, 0, 9), 18);
         touches("14 ten in, all but the last", x, 2, 2, 2, 2, 2, 2, 2, 2, 2, 0);
         due("14 ten in, no step 10", x.fail(1023, 0, 10), -3);
@@ -498,7 +484,7 @@ public final class PromiseTest {
     }
 
     private static void revert() {
-        ProvisionAgent x = five();
+        ProvisionAgent x = Agents.five();
         x.apply(3, 0);
         x.apply(12, 3);
         due("15 i -1", x.revert(-1), -1);
@@ -521,7 +507,7 @@ public final class PromiseTest {
     }
 
     private static void notes() {
-        ProvisionAgent x = five();
+        ProvisionAgent x = Agents.five();
         for (int i = 0; i < 12; i++) {
             due("16 notes", x.notes(), i < 8 ? i : 8);
             x.apply(1 << (i % 5), 0);
@@ -534,7 +520,7 @@ public final class PromiseTest {
     }
 
     private static void note() {
-        ProvisionAgent x = plain(10);
+        ProvisionAgent x = Agents.plain(10);
         for (int i = 0; i < 8; i++) {
             x.apply(1 << i, 1023 & ~(1 << i));
         }
@@ -561,7 +547,7 @@ public final class PromiseTest {
     }
 
     private static void touched() {
-        ProvisionAgent x = plain(2);
+        ProvisionAgent x = Agents.plain(2);
         due("18 at first", x.touched(0), 0);
         due("18 -1", x.touched(-1), -1);
         due("18 no such unit", x.touched(2), -1);
@@ -603,7 +589,7 @@ public final class PromiseTest {
 
     /** Several things wrong at once: the test named first answers. */
     private static void orderOfTests() {
-        ProvisionAgent x = plain(1);
+        ProvisionAgent x = Agents.plain(1);
         due("order unit -1", x.unit(9, 0, 0), -1);
         due("order offer -1", x.offer(1, 6, 0), -1);
         due("order offer -2", x.offer(0, 6, 0), -2);
@@ -619,14 +605,14 @@ public final class PromiseTest {
         due("order need -3 before -4", x.need(0, 0, 2, 1), -3);
         due("order fail -1 before -2", x.fail(1, 3, -1), -1);
         due("order fail -2 before -3", x.fail(1, 1, -1), -2);
-        ProvisionAgent y = plain(10);
+        ProvisionAgent y = Agents.plain(10);
         due("order unit -1 before -4", y.unit(5, 1, 0), -1);
         due("order unit -2 before -4", y.unit(0, 0, 0), -2);
         due("order unit -3 before -4", y.unit(0, 1, 0), -3);
     }
 
     private static void refusedChangesNothing() {
-        ProvisionAgent x = plain(3);
+        ProvisionAgent x = Agents.plain(3);
         x.offer(0, 0, 1);
         x.apply(3, 0);
         x.environment(2);
@@ -654,7 +640,7 @@ public final class PromiseTest {
     }
 
     private static void objectsAreApart() {
-        ProvisionAgent x = five();
+        ProvisionAgent x = Agents.five();
         ProvisionAgent y = new ProvisionAgent();
         x.apply(31, 0);
         due("apart: units", y.units(), 0);
