@@ -4,25 +4,59 @@ public final class BoundaryTest {
     private static final int[] FAR = Agents.FAR;
 
     public static void main(String[] args) {
-        noUnitsAtFirst();
-        units();
-        offers();
-        needs();
-        environments();
-        howManyUnits();
-        theProfile();
-        sound();
-        cost();
-        plan();
-        planCost();
-        excess();
-        apply();
-        fail();
-        revert();
-        notes();
-        note();
-        touched();
-        notedWithoutSteps();
+        CHECK.sentence("1: No units at first.", BoundaryTest::noUnitsAtFirst);
+        CHECK.sentence("2: -1 if name is not in 0 .. 4", BoundaryTest::unitName);
+        CHECK.sentence("2: -2 if version is not in 1 .. 9", BoundaryTest::unitVersion);
+        CHECK.sentence("2: -3 if there is one with this name and version", BoundaryTest::unitTwice);
+        CHECK.sentence("2: -4 if there are 10 units; otherwise answers its number", BoundaryTest::unitsFull);
+        CHECK.sentence("2: single not 0 makes it single.", BoundaryTest::unitSingle);
+        CHECK.sentence("3: -1 if unit is not good", BoundaryTest::offerUnit);
+        CHECK.sentence("3: -2 if capability is not in 0 .. 5", BoundaryTest::offerCapability);
+        CHECK.sentence("3: -3 if version is not in 1 .. 9", BoundaryTest::offerVersion);
+        CHECK.sentence("3: -4 if it has 3 offers; otherwise answers how many it has now", BoundaryTest::offersFull);
+        CHECK.sentence("4: -1 if unit is not good", BoundaryTest::needUnit);
+        CHECK.sentence("4: -2 if kind is not in 0 .. 63 or its capability is 6 or 7", BoundaryTest::needKind);
+        CHECK.sentence("4: kind is 32 * optional + 8 * condition + capability, with optional 0 or 1.",
+                BoundaryTest::needKindIsASum);
+        CHECK.sentence("4: -3 unless 1 <= low <= high <= 9", BoundaryTest::needRange);
+        CHECK.sentence("4: -4 if it has 3 needs; otherwise answers how many it has now", BoundaryTest::needsFull);
+        CHECK.sentence("5: -1 if bits is not in 0 .. 7", BoundaryTest::environmentBits);
+        CHECK.sentence("5: otherwise answers the one before", BoundaryTest::environmentBefore);
+        CHECK.sentence("6: How many units there are.", BoundaryTest::howManyUnits);
+        CHECK.sentence("7: The profile.", BoundaryTest::theProfile);
+        CHECK.sentence("8: -1 if set is not good", BoundaryTest::soundOfGoodSets);
+        CHECK.sentence("8: 1 if the set is sound, otherwise 0", BoundaryTest::soundOrNot);
+        CHECK.sentence("9: -1 if set is not good", BoundaryTest::costOfGoodSets);
+        CHECK.sentence("9: The cost of a set, sound or not", BoundaryTest::costSoundOrNot);
+        CHECK.sentence("10: -1 if wanted or barred is not a good set", BoundaryTest::planOfGoodSets);
+        CHECK.sentence("10: -2 if there is no plan", BoundaryTest::noPlan);
+        CHECK.sentence("11: -1 if wanted or barred is not a good set", BoundaryTest::planCostOfGoodSets);
+        CHECK.sentence("11: -2 if there is no plan", BoundaryTest::noPlanCost);
+        CHECK.sentence("11: The cost of the plan for a request.", BoundaryTest::planCostOfPlan);
+        CHECK.sentence("12: -1 if wanted or barred is not a good set", BoundaryTest::excessOfGoodSets);
+        CHECK.sentence("12: The least number of demands that must be given up so that a plan exists",
+                BoundaryTest::excessLeast);
+        CHECK.sentence("12: each wanted unit is a demand, and so is each barred one", BoundaryTest::excessDemands);
+        CHECK.sentence("13: -1 if wanted or barred is not a good set", BoundaryTest::applyOfGoodSets);
+        CHECK.sentence("13: -2 if there is no plan", BoundaryTest::applyWithoutPlan);
+        CHECK.sentence("13: otherwise answers how many steps that took", BoundaryTest::applyAnswersSteps);
+        CHECK.sentence("14: -1 if wanted or barred is not a good set", BoundaryTest::failOfGoodSets);
+        CHECK.sentence("14: -2 if there is no plan", BoundaryTest::failWithoutPlan);
+        CHECK.sentence("14: -3 if the change has no step k (nothing is done then)", BoundaryTest::failWithoutStep);
+        CHECK.sentence("14: otherwise answers 2 * k: how often units were touched", BoundaryTest::failAnswers);
+        CHECK.sentence("15: -1 if there is no such note", BoundaryTest::revertWithoutNote);
+        CHECK.sentence("15: Changes to the set that is noted at position i of the history (0 for the first note kept)",
+                BoundaryTest::revertToPosition);
+        CHECK.sentence("15: sound or not", BoundaryTest::revertToUnsound);
+        CHECK.sentence("15: otherwise answers how many steps that took", BoundaryTest::revertAnswers);
+        CHECK.sentence("16: How many notes the history has.", BoundaryTest::notes);
+        CHECK.sentence("17: -1 if there is no such note", BoundaryTest::noteWithoutNote);
+        CHECK.sentence("17: The set noted at position i", BoundaryTest::noteAtPosition);
+        CHECK.sentence("18: -1 if unit is not good", BoundaryTest::touchedGoodUnits);
+        CHECK.sentence("18: How often the unit has been touched", BoundaryTest::touchedHowOften);
+        CHECK.sentence("19: the history has no notes at first", BoundaryTest::noNotesAtFirst);
+        CHECK.sentence("19: apply and revert note the profile also if they took no steps.",
+                BoundaryTest::notedWithoutSteps);
         CHECK.end();
     }
 
@@ -31,7 +65,6 @@ public final class BoundaryTest {
     }
 
     private static void noUnitsAtFirst() {
-        CHECK.sentence("1: No units at first.");
         ProvisionAgent x = new ProvisionAgent();
         due("units", x.units(), 0);
         due("unit 0 is not good to offer", x.offer(0, 0, 1), -1);
@@ -47,16 +80,7 @@ public final class BoundaryTest {
         due("the first unit's number", x.unit(0, 1, 0), 0);
     }
 
-    private static void units() {
-        unitName();
-        unitVersion();
-        unitTwice();
-        unitsFull();
-        unitSingle();
-    }
-
     private static void unitName() {
-        CHECK.sentence("2: -1 if name is not in 0 .. 4");
         ProvisionAgent x = new ProvisionAgent();
         due("-1", x.unit(-1, 1, 0), -1);
         due("5", x.unit(5, 1, 0), -1);
@@ -68,7 +92,6 @@ public final class BoundaryTest {
     }
 
     private static void unitVersion() {
-        CHECK.sentence("2: -2 if version is not in 1 .. 9");
         ProvisionAgent x = new ProvisionAgent();
         due("0", x.unit(0, 0, 0), -2);
         due("10", x.unit(0, 10, 0), -2);
@@ -80,7 +103,6 @@ public final class BoundaryTest {
     }
 
     private static void unitTwice() {
-        CHECK.sentence("2: -3 if there is one with this name and version");
         ProvisionAgent x = new ProvisionAgent();
         for (int u = 0; u < 10; u++) {
             due("unit " + u, x.unit(u % 5, 9 - u / 5, 0), u);
@@ -91,7 +113,6 @@ public final class BoundaryTest {
     }
 
     private static void unitsFull() {
-        CHECK.sentence("2: -4 if there are 10 units; otherwise answers its number");
         ProvisionAgent x = new ProvisionAgent();
         for (int u = 0; u < 10; u++) {
             due("unit " + u, x.unit(u % 5, 1 + u / 5, 0), u);
@@ -102,7 +123,6 @@ public final class BoundaryTest {
     }
 
     private static void unitSingle() {
-        CHECK.sentence("2: single not 0 makes it single.");
         int[] singles = {0, 1, 2, 256, 1 << 16, Integer.MAX_VALUE, -1, -2, Integer.MIN_VALUE};
         for (int single : singles) {
             ProvisionAgent x = new ProvisionAgent();
@@ -112,27 +132,35 @@ public final class BoundaryTest {
         }
     }
 
-    private static void offers() {
-        CHECK.sentence("3: -1 if unit is not good");
+    private static void offerUnit() {
         ProvisionAgent x = Agents.plain(2);
         due("-1", x.offer(-1, 0, 1), -1);
         due("2 of two", x.offer(2, 0, 1), -1);
         for (int far : FAR) {
             due("" + far, x.offer(far, 0, 1), -1);
         }
-        CHECK.sentence("3: -2 if capability is not in 0 .. 5");
+    }
+
+    private static void offerCapability() {
+        ProvisionAgent x = Agents.plain(2);
         due("-1", x.offer(0, -1, 1), -2);
         due("6", x.offer(0, 6, 1), -2);
         for (int far : FAR) {
             due("" + far, x.offer(0, far, 1), -2);
         }
-        CHECK.sentence("3: -3 if version is not in 1 .. 9");
+    }
+
+    private static void offerVersion() {
+        ProvisionAgent x = Agents.plain(2);
         due("0", x.offer(0, 0, 0), -3);
         due("10", x.offer(0, 0, 10), -3);
         for (int far : FAR) {
             due("" + far, x.offer(0, 0, far), -3);
         }
-        CHECK.sentence("3: -4 if it has 3 offers; otherwise answers how many it has now");
+    }
+
+    private static void offersFull() {
+        ProvisionAgent x = Agents.plain(2);
         due("the least", x.offer(1, 0, 1), 1);
         due("the greatest", x.offer(1, 5, 9), 2);
         due("the same again is one more", x.offer(1, 5, 9), 3);
@@ -141,16 +169,7 @@ public final class BoundaryTest {
         due("the other unit's first", x.offer(0, 0, 1), 1);
     }
 
-    private static void needs() {
-        needUnit();
-        needKind();
-        needKindIsASum();
-        needRange();
-        needsFull();
-    }
-
     private static void needUnit() {
-        CHECK.sentence("4: -1 if unit is not good");
         ProvisionAgent x = Agents.plain(2);
         due("-1", x.need(-1, 0, 1, 1), -1);
         due("2 of two", x.need(2, 0, 1, 1), -1);
@@ -160,7 +179,6 @@ public final class BoundaryTest {
     }
 
     private static void needKind() {
-        CHECK.sentence("4: -2 if kind is not in 0 .. 63 or its capability is 6 or 7");
         for (int kind = -72; kind <= 136; kind++) {
             boolean good = kind >= 0 && kind <= 63 && kind % 8 < 6;
             due("kind " + kind, Agents.plain(1).need(0, kind, 1, 1), good ? 1 : -2);
@@ -171,7 +189,6 @@ public final class BoundaryTest {
     }
 
     private static void needKindIsASum() {
-        CHECK.sentence("4: kind is 32 * optional + 8 * condition + capability, with optional 0 or 1.");
         for (int kind = 0; kind < 64; kind++) {
             if (kind % 8 < 6) {
                 kindIs(kind, kind / 32, kind / 8 % 4, kind % 8);
@@ -197,7 +214,6 @@ public final class BoundaryTest {
     }
 
     private static void needRange() {
-        CHECK.sentence("4: -3 unless 1 <= low <= high <= 9");
         for (int low = -1; low <= 11; low++) {
             for (int high = -1; high <= 11; high++) {
                 boolean good = 1 <= low && low <= high && high <= 9;
@@ -214,7 +230,6 @@ public final class BoundaryTest {
     }
 
     private static void needsFull() {
-        CHECK.sentence("4: -4 if it has 3 needs; otherwise answers how many it has now");
         ProvisionAgent x = Agents.plain(2);
         due("the least", x.need(1, 0, 1, 1), 1);
         due("the greatest", x.need(1, 61, 9, 9), 2);
@@ -224,15 +239,17 @@ public final class BoundaryTest {
         due("the other unit's first", x.need(0, 0, 1, 9), 1);
     }
 
-    private static void environments() {
-        CHECK.sentence("5: -1 if bits is not in 0 .. 7");
+    private static void environmentBits() {
         ProvisionAgent x = new ProvisionAgent();
         due("-1", x.environment(-1), -1);
         due("8", x.environment(8), -1);
         for (int far : FAR) {
             due("" + far, x.environment(far), -1);
         }
-        CHECK.sentence("5: otherwise answers the one before");
+    }
+
+    private static void environmentBefore() {
+        ProvisionAgent x = new ProvisionAgent();
         int before = 0;
         for (int first = 0; first <= 7; first++) {
             for (int second = 0; second <= 7; second++) {
@@ -245,7 +262,6 @@ public final class BoundaryTest {
     }
 
     private static void howManyUnits() {
-        CHECK.sentence("6: How many units there are.");
         ProvisionAgent x = new ProvisionAgent();
         for (int u = 0; u < 10; u++) {
             due("units", x.units(), u);
@@ -259,7 +275,6 @@ public final class BoundaryTest {
     }
 
     private static void theProfile() {
-        CHECK.sentence("7: The profile.");
         ProvisionAgent x = Agents.plain(10);
         due("empty", x.profile(), 0);
         x.apply(1023, 0);
@@ -290,10 +305,11 @@ public final class BoundaryTest {
         }
     }
 
-    private static void sound() {
-        CHECK.sentence("8: -1 if set is not good");
+    private static void soundOfGoodSets() {
         takesGoodSetsAlone((x, set) -> x.sound(set));
-        CHECK.sentence("8: 1 if the set is sound, otherwise 0");
+    }
+
+    private static void soundOrNot() {
         ProvisionAgent x = new ProvisionAgent();
         x.unit(0, 1, 1);
         x.unit(0, 2, 1);
@@ -306,10 +322,11 @@ public final class BoundaryTest {
         due("both", x.sound(7), 0);
     }
 
-    private static void cost() {
-        CHECK.sentence("9: -1 if set is not good");
+    private static void costOfGoodSets() {
         takesGoodSetsAlone((x, set) -> x.cost(set));
-        CHECK.sentence("9: The cost of a set, sound or not");
+    }
+
+    private static void costSoundOrNot() {
         ProvisionAgent x = new ProvisionAgent();
         for (int version = 1; version <= 9; version++) {
             x.unit(0, version, 1);
@@ -323,11 +340,12 @@ public final class BoundaryTest {
         due("nine rivals", x.cost(511), 45 + 36 + 36);
     }
 
-    private static void plan() {
-        CHECK.sentence("10: -1 if wanted or barred is not a good set");
+    private static void planOfGoodSets() {
         takesGoodSetsAlone((x, set) -> x.plan(set, 0));
         takesGoodSetsAlone((x, set) -> x.plan(0, set));
-        CHECK.sentence("10: -2 if there is no plan");
+    }
+
+    private static void noPlan() {
         due("of none, the empty set", new ProvisionAgent().plan(0, 0), 0);
         ProvisionAgent x = withoutMuchHope();
         due("the empty set", x.plan(0, 511), 0);
@@ -347,11 +365,12 @@ public final class BoundaryTest {
         return x;
     }
 
-    private static void planCost() {
-        CHECK.sentence("11: -1 if wanted or barred is not a good set");
+    private static void planCostOfGoodSets() {
         takesGoodSetsAlone((x, set) -> x.planCost(set, 0));
         takesGoodSetsAlone((x, set) -> x.planCost(0, set));
-        CHECK.sentence("11: -2 if there is no plan");
+    }
+
+    private static void noPlanCost() {
         due("of none, the empty set", new ProvisionAgent().planCost(0, 0), 0);
         ProvisionAgent x = withoutMuchHope();
         due("the empty set", x.planCost(0, 511), 0);
@@ -359,7 +378,9 @@ public final class BoundaryTest {
         due("wanted and barred", x.planCost(512, 512), -2);
         due("a need that is never met", x.planCost(1, 0), -2);
         due("all", x.planCost(1023, 0), -2);
-        CHECK.sentence("11: The cost of the plan for a request.");
+    }
+
+    private static void planCostOfPlan() {
         ProvisionAgent y = Agents.plain(10);
         due("all of ten", y.planCost(1023, 0), 55);
         y.apply(1023, 0);
@@ -367,16 +388,12 @@ public final class BoundaryTest {
         due("the profile", y.planCost(0, 0), 5);
     }
 
-    private static void excess() {
-        CHECK.sentence("12: -1 if wanted or barred is not a good set");
+    private static void excessOfGoodSets() {
         takesGoodSetsAlone((x, set) -> x.excess(set, 0));
         takesGoodSetsAlone((x, set) -> x.excess(0, set));
-        excessLeast();
-        excessDemands();
     }
 
     private static void excessLeast() {
-        CHECK.sentence("12: The least number of demands that must be given up so that a plan exists");
         due("no demand", new ProvisionAgent().excess(0, 0), 0);
         ProvisionAgent x = withoutMuchHope();
         due("a plan exists", x.excess(512, 511), 0);
@@ -385,6 +402,7 @@ public final class BoundaryTest {
             due(size + " that can never be", x.excess((1 << size) - 1, 0), size);
         }
         due("all wanted", x.excess(1023, 0), 9);
+        due("all wanted that can be", Agents.plain(10).excess(1023, 0), 0);
         // Nine rivals of one name: all but one must go.
         ProvisionAgent y = new ProvisionAgent();
         for (int version = 1; version <= 9; version++) {
@@ -396,7 +414,6 @@ public final class BoundaryTest {
     }
 
     private static void excessDemands() {
-        CHECK.sentence("12: each wanted unit is a demand, and so is each barred one");
         ProvisionAgent x = Agents.plain(10);
         for (int size = 0; size <= 10; size++) {
             int set = (1 << size) - 1;
@@ -410,6 +427,7 @@ public final class BoundaryTest {
         }
         due("one wanted for three barred", x.excess(512, 7), 1);
         due("for one barred", x.excess(512, 4), 1);
+        due("one of three wanted", x.excess(896, 7), 1);
         // Units 3 .. 8 need unit 0, which is barred; it is given up sooner than they are.
         for (int u = 3; u < 9; u++) {
             x.need(u, 0, 1, 1);
@@ -418,17 +436,20 @@ public final class BoundaryTest {
         due("two barred for them and the last", x.excess(1016, 3), 2);
     }
 
-    private static void apply() {
-        CHECK.sentence("13: -1 if wanted or barred is not a good set");
+    private static void applyOfGoodSets() {
         takesGoodSetsAlone((x, set) -> x.apply(set, 0));
         takesGoodSetsAlone((x, set) -> x.apply(0, set));
-        CHECK.sentence("13: -2 if there is no plan");
+    }
+
+    private static void applyWithoutPlan() {
         ProvisionAgent x = withoutMuchHope();
         due("wanted and barred", x.apply(512, 512), -2);
         due("a need that is never met", x.apply(1, 0), -2);
         due("nothing was noted", x.notes(), 0);
         due("the last unit alone", x.apply(512, 511), 1);
-        CHECK.sentence("13: otherwise answers how many steps that took");
+    }
+
+    private static void applyAnswersSteps() {
         for (int from = 0; from < 32; from++) {
             for (int to = 0; to < 32; to++) {
                 ProvisionAgent y = Agents.five();
@@ -442,21 +463,19 @@ public final class BoundaryTest {
         due("ten out", z.apply(0, 1023), 10);
     }
 
-    private static void fail() {
-        CHECK.sentence("14: -1 if wanted or barred is not a good set");
+    private static void failOfGoodSets() {
         takesGoodSetsAlone((x, set) -> x.fail(set, 0, 0));
         takesGoodSetsAlone((x, set) -> x.fail(0, set, 0));
-        CHECK.sentence("14: -2 if there is no plan");
+    }
+
+    private static void failWithoutPlan() {
         ProvisionAgent x = withoutMuchHope();
         due("wanted and barred", x.fail(512, 512, 0), -2);
         due("a need that is never met", x.fail(1, 0, 0), -2);
         due("the last unit alone", x.fail(512, 511, 0), 0);
-        failWithoutStep();
-        failAnswers();
     }
 
     private static void failWithoutStep() {
-        CHECK.sentence("14: -3 if the change has no step k (nothing is done then)");
         for (int steps = 0; steps <= 10; steps++) {
             ProvisionAgent x = Agents.plain(10);
             int set = (1 << steps) - 1;
@@ -474,7 +493,6 @@ public final class BoundaryTest {
     }
 
     private static void failAnswers() {
-        CHECK.sentence("14: otherwise answers 2 * k: how often units were touched");
         for (int steps = 1; steps <= 10; steps++) {
             ProvisionAgent x = Agents.plain(10);
             int set = (1 << steps) - 1;
@@ -488,8 +506,7 @@ public final class BoundaryTest {
         }
     }
 
-    private static void revert() {
-        CHECK.sentence("15: -1 if there is no such note");
+    private static void revertWithoutNote() {
         ProvisionAgent x = Agents.five();
         for (int made = 0; made <= 9; made++) {
             due("-1 of " + made, x.revert(-1), -1);
@@ -500,13 +517,9 @@ public final class BoundaryTest {
             due("notes", x.notes(), made < 8 ? made : 8);
             x.apply(0, 0);
         }
-        revertToPosition();
-        revertToUnsound();
-        revertAnswers();
     }
 
     private static void revertToPosition() {
-        CHECK.sentence("15: Changes to the set that is noted at position i of the history (0 for the first note kept)");
         for (int made = 1; made <= 10; made++) {
             int kept = made < 8 ? made : 8;
             for (int i = 0; i < kept; i++) {
@@ -522,7 +535,6 @@ public final class BoundaryTest {
     }
 
     private static void revertToUnsound() {
-        CHECK.sentence("15: sound or not");
         ProvisionAgent x = Agents.five();
         x.apply(31, 0);
         x.apply(0, 31);
@@ -539,7 +551,6 @@ public final class BoundaryTest {
     }
 
     private static void revertAnswers() {
-        CHECK.sentence("15: otherwise answers how many steps that took");
         for (int from = 0; from < 32; from++) {
             for (int to = 0; to < 32; to++) {
                 ProvisionAgent x = Agents.five();
@@ -557,7 +568,6 @@ public final class BoundaryTest {
     }
 
     private static void notes() {
-        CHECK.sentence("16: How many notes the history has.");
         ProvisionAgent x = Agents.five();
         for (int made = 0; made < 40; made++) {
             due("after " + made, x.notes(), made < 8 ? made : 8);
@@ -572,8 +582,7 @@ public final class BoundaryTest {
         }
     }
 
-    private static void note() {
-        CHECK.sentence("17: -1 if there is no such note");
+    private static void noteWithoutNote() {
         ProvisionAgent x = Agents.five();
         for (int made = 0; made <= 9; made++) {
             due("-1 of " + made, x.note(-1), -1);
@@ -585,7 +594,9 @@ public final class BoundaryTest {
             }
             x.apply(31, 0);
         }
-        CHECK.sentence("17: The set noted at position i");
+    }
+
+    private static void noteAtPosition() {
         ProvisionAgent y = Agents.plain(10);
         int[] sets = {1, 1023, 0, 512, 511, 2, 1, 1022};
         for (int set : sets) {
@@ -596,8 +607,7 @@ public final class BoundaryTest {
         }
     }
 
-    private static void touched() {
-        CHECK.sentence("18: -1 if unit is not good");
+    private static void touchedGoodUnits() {
         for (int n = 0; n <= 10; n++) {
             ProvisionAgent x = Agents.plain(n);
             due("-1 of " + n, x.touched(-1), -1);
@@ -606,7 +616,9 @@ public final class BoundaryTest {
                 due(far + " of " + n, x.touched(far), -1);
             }
         }
-        CHECK.sentence("18: How often the unit has been touched");
+    }
+
+    private static void touchedHowOften() {
         ProvisionAgent y = Agents.plain(10);
         for (int u = 0; u < 10; u++) {
             due("at first", y.touched(u), 0);
@@ -622,12 +634,13 @@ public final class BoundaryTest {
         }
     }
 
-    private static void notedWithoutSteps() {
-        CHECK.sentence("19: the history has no notes at first");
+    private static void noNotesAtFirst() {
         due("notes", new ProvisionAgent().notes(), 0);
         due("note(0)", new ProvisionAgent().note(0), -1);
         due("revert(0)", new ProvisionAgent().revert(0), -1);
-        CHECK.sentence("19: apply and revert note the profile also if they took no steps.");
+    }
+
+    private static void notedWithoutSteps() {
         ProvisionAgent x = new ProvisionAgent();
         due("apply without units", x.apply(0, 0), 0);
         due("notes", x.notes(), 1);

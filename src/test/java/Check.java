@@ -4,9 +4,19 @@ final class Check {
     private int asked;
     private String sentence = "";
 
-    /** The document's words that the checks from here on are about; they are printed with every wrong answer. */
-    void sentence(String words) {
+    /** Makes the test of a sentence of the document; its words are printed with every wrong answer. */
+    void sentence(String words, Runnable test) {
         sentence = "[" + words + "] ";
+        int before = asked;
+        try {
+            test.run();
+        } catch (RuntimeException thrown) {
+            same("no call may throw", thrown.toString(), "nothing thrown");
+        }
+        if (asked == before) {
+            same("the test", "asked nothing", "asked something");
+        }
+        sentence = "";
     }
 
     void due(String what, int got, int want) {

@@ -26,7 +26,8 @@ public final class FaceTest {
         }
         checkMethods(seen);
         for (Field field : seen.getDeclaredFields()) {
-            CHECK.due("field " + field.getName() + " private", field.getModifiers() & Modifier.PRIVATE, Modifier.PRIVATE);
+            int privacy = field.getModifiers() & Modifier.PRIVATE;
+            CHECK.due("field " + field.getName() + " private", privacy, Modifier.PRIVATE);
         }
         CHECK.end();
     }

@@ -264,7 +264,8 @@ public final class ModelTest {
         boolean meets(List<Unit> members, Need need) {
             for (Unit unit : members) {
                 for (Offer offer : unit.offers) {
-                    if (offer.capability == need.capability && need.low <= offer.version && offer.version <= need.high) {
+                    boolean within = need.low <= offer.version && offer.version <= need.high;
+                    if (within && offer.capability == need.capability) {
                         return true;
                     }
                 }

@@ -26,9 +26,6 @@ public final class PromiseTest {
         note();
         touched();
         orderAndLimits();
-        orderOfTests();
-        refusedChangesNothing();
-        objectsAreApart();
         CHECK.end();
     }
 
@@ -585,68 +582,5 @@ public final class PromiseTest {
         x.apply(1, 0);
         due("19 at the end", x.note(7), 1);
         due("19 the one before", x.note(6), 0);
-    }
-
-    /** Several things wrong at once: the test named first answers. */
-    private static void orderOfTests() {
-        ProvisionAgent x = Agents.plain(1);
-        due("order unit -1", x.unit(9, 0, 0), -1);
-        due("order offer -1", x.offer(1, 6, 0), -1);
-        due("order offer -2", x.offer(0, 6, 0), -2);
-        due("order need -1", x.need(1, 6, 0, 0), -1);
-        due("order need -2", x.need(0, 6, 0, 0), -2);
-        for (int i = 0; i < 3; i++) {
-            x.offer(0, 0, 1);
-            x.need(0, 32, 1, 1);
-        }
-        due("order offer -2 before -4", x.offer(0, 6, 1), -2);
-        due("order offer -3 before -4", x.offer(0, 0, 0), -3);
-        due("order need -2 before -4", x.need(0, 7, 1, 1), -2);
-        due("order need -3 before -4", x.need(0, 0, 2, 1), -3);
-        due("order fail -1 before -2", x.fail(1, 3, -1), -1);
-        due("order fail -2 before -3", x.fail(1, 1, -1), -2);
-        ProvisionAgent y = Agents.plain(10);
-        due("order unit -1 before -4", y.unit(5, 1, 0), -1);
-        due("order unit -2 before -4", y.unit(0, 0, 0), -2);
-        due("order unit -3 before -4", y.unit(0, 1, 0), -3);
-    }
-
-    private static void refusedChangesNothing() {
-        ProvisionAgent x = Agents.plain(3);
-        x.offer(0, 0, 1);
-        x.apply(3, 0);
-        x.environment(2);
-        x.unit(5, 1, 0);
-        x.unit(3, 10, 1);
-        x.unit(0, 1, 1);
-        x.offer(0, 6, 1);
-        x.offer(0, 0, 10);
-        x.need(0, 6, 1, 1);
-        x.need(0, 0, 2, 1);
-        x.environment(8);
-        x.apply(8, 0);
-        x.apply(4, 4);
-        x.fail(4, 0, 1);
-        x.revert(1);
-        due("refused: units", x.units(), 3);
-        due("refused: the next offer", x.offer(0, 0, 2), 2);
-        due("refused: the next need", x.need(0, 0, 1, 1), 1);
-        due("refused: environment", x.environment(0), 2);
-        due("refused: profile", x.profile(), 3);
-        due("refused: notes", x.notes(), 1);
-        due("refused: sound", x.sound(7), 1);
-        due("refused: cost", x.cost(7), 5);
-        touches("refused", x, 1, 1, 0);
-    }
-
-    private static void objectsAreApart() {
-        ProvisionAgent x = Agents.five();
-        ProvisionAgent y = new ProvisionAgent();
-        x.apply(31, 0);
-        due("apart: units", y.units(), 0);
-        due("apart: profile", y.profile(), 0);
-        due("apart: notes", y.notes(), 0);
-        due("apart: unit", y.unit(0, 1, 0), 0);
-        due("apart: touched", y.touched(0), 0);
     }
 }

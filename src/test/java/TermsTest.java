@@ -9,41 +9,49 @@ public final class TermsTest {
     private static final int ODD = 682;
 
     public static void main(String[] args) {
-        atMostTenUnits();
-        numberedInTheirOrder();
-        names();
-        versions();
-        noTwoAlike();
-        mayBeSingle();
-        atMostThreeOffers();
-        offeredCapabilities();
-        atMostThreeNeeds();
-        neededCapabilities();
-        neededRange();
-        mayBeOptional();
-        conditions();
-        environmentAtFirst();
-        setsAsSums();
-        someMemberOffers();
-        theUnitItselfMayOffer();
-        soundNames();
-        soundNeeds();
-        emptySetIsSound();
-        profileIsEmptyAtFirst();
-        costOfNewMembers();
-        costOfLostMembers();
-        costOfOptions();
-        costOfOldVersions();
-        planIsSound();
-        planHoldsWantedAndNoBarred();
-        planIsCheapest();
-        planHasTheLeastNumber();
-        outFallingThenInRising();
-        stepsAreNumberedFromZero();
-        becomesProfileAndIsNoted();
-        firstNoteIsDropped();
-        everyStepTouchesOnce();
-        failedChangeIsUndone();
+        CHECK.sentence("There is a list of at most 10 UNITS", TermsTest::atMostTenUnits);
+        CHECK.sentence("numbered 0, 1, 2, .. in their order", TermsTest::numberedInTheirOrder);
+        CHECK.sentence("A unit has a NAME 0 .. 4", TermsTest::names);
+        CHECK.sentence("and a VERSION 1 .. 9", TermsTest::versions);
+        CHECK.sentence("no two units have the same name and version", TermsTest::noTwoAlike);
+        CHECK.sentence("may be SINGLE", TermsTest::mayBeSingle);
+        CHECK.sentence("OFFERS at most 3 capabilities", TermsTest::atMostThreeOffers);
+        CHECK.sentence("each a number 0 .. 5 with a version 1 .. 9", TermsTest::offeredCapabilities);
+        CHECK.sentence("and has at most 3 NEEDS", TermsTest::atMostThreeNeeds);
+        CHECK.sentence("A need asks for a capability 0 .. 5", TermsTest::neededCapabilities);
+        CHECK.sentence("with a version in a range low .. high", TermsTest::neededRange);
+        CHECK.sentence("may be OPTIONAL", TermsTest::mayBeOptional);
+        CHECK.sentence("with 0 it always applies, with k > 0 only if bit k - 1 of the ENVIRONMENT",
+                TermsTest::conditions);
+        CHECK.sentence("the ENVIRONMENT (0 .. 7, 0 at first)", TermsTest::environmentAtFirst);
+        CHECK.sentence("A set of units is written as the sum of 2^u over its members", TermsTest::setsAsSums);
+        CHECK.sentence("it MEETS a need if some member offers the capability with a version in the range",
+                TermsTest::someMemberOffers);
+        CHECK.sentence("the unit with the need may be that member", TermsTest::theUnitItselfMayOffer);
+        CHECK.sentence("no two members have the same name with at least one of the two single", TermsTest::soundNames);
+        CHECK.sentence("it meets every need of every member that applies and is not optional", TermsTest::soundNeeds);
+        CHECK.sentence("The empty set is sound.", TermsTest::emptySetIsSound);
+        CHECK.sentence("THE PROFILE is a set of units, empty at first.", TermsTest::profileIsEmptyAtFirst);
+        CHECK.sentence("THE COST of a set is 5 for every member that is not in the profile",
+                TermsTest::costOfNewMembers);
+        CHECK.sentence("plus 3 for every unit of the profile that is no member", TermsTest::costOfLostMembers);
+        CHECK.sentence("plus 2 for every need of a member that applies, is optional, and is not met",
+                TermsTest::costOfOptions);
+        CHECK.sentence("the greatest version of a unit (of the list) with its name, less its own version",
+                TermsTest::costOfOldVersions);
+        CHECK.sentence("THE PLAN for a request is, among the sound sets", TermsTest::planIsSound);
+        CHECK.sentence("that contain all wanted units and no barred one", TermsTest::planHoldsWantedAndNoBarred);
+        CHECK.sentence("the one of least cost", TermsTest::planIsCheapest);
+        CHECK.sentence("and among those the one with the least number", TermsTest::planHasTheLeastNumber);
+        CHECK.sentence("taken out, in falling order of numbers, then the units of it that are not in the profile",
+                TermsTest::outFallingThenInRising);
+        CHECK.sentence("each of these is a STEP, numbered 0, 1, 2, ...", TermsTest::stepsAreNumberedFromZero);
+        CHECK.sentence("At the end the set becomes the profile, and the profile is noted at the end of the HISTORY",
+                TermsTest::becomesProfileAndIsNoted);
+        CHECK.sentence("the first note is dropped when there would be more than 8", TermsTest::firstNoteIsDropped);
+        CHECK.sentence("Every step TOUCHES its unit once.", TermsTest::everyStepTouchesOnce);
+        CHECK.sentence("undone in reverse order, which touches their units once more; profile and history stay.",
+                TermsTest::failedChangeIsUndone);
         CHECK.end();
     }
 
@@ -52,7 +60,6 @@ public final class TermsTest {
     }
 
     private static void atMostTenUnits() {
-        CHECK.sentence("There is a list of at most 10 UNITS");
         ProvisionAgent x = Agents.plain(9);
         due("the tenth", x.unit(4, 2, 0), 9);
         due("units", x.units(), 10);
@@ -65,7 +72,6 @@ public final class TermsTest {
     }
 
     private static void numberedInTheirOrder() {
-        CHECK.sentence("numbered 0, 1, 2, .. in their order");
         ProvisionAgent x = new ProvisionAgent();
         for (int u = 0; u < 10; u++) {
             due("number", x.unit(4 - u % 5, 9 - u / 5, 0), u);
@@ -78,7 +84,6 @@ public final class TermsTest {
     }
 
     private static void names() {
-        CHECK.sentence("A unit has a NAME 0 .. 4");
         ProvisionAgent x = new ProvisionAgent();
         for (int name = 0; name <= 4; name++) {
             due("name " + name, x.unit(name, 5, 1), name);
@@ -92,7 +97,6 @@ public final class TermsTest {
     }
 
     private static void versions() {
-        CHECK.sentence("and a VERSION 1 .. 9");
         ProvisionAgent x = new ProvisionAgent();
         for (int version = 1; version <= 9; version++) {
             due("version " + version, x.unit(0, version, 0), version - 1);
@@ -103,7 +107,6 @@ public final class TermsTest {
     }
 
     private static void noTwoAlike() {
-        CHECK.sentence("no two units have the same name and version");
         ProvisionAgent x = new ProvisionAgent();
         x.unit(2, 5, 0);
         due("the same at once", x.unit(2, 5, 0), -3);
@@ -120,7 +123,6 @@ public final class TermsTest {
     }
 
     private static void mayBeSingle() {
-        CHECK.sentence("may be SINGLE");
         for (int first = 0; first <= 1; first++) {
             for (int second = 0; second <= 1; second++) {
                 ProvisionAgent x = new ProvisionAgent();
@@ -132,7 +134,6 @@ public final class TermsTest {
     }
 
     private static void atMostThreeOffers() {
-        CHECK.sentence("OFFERS at most 3 capabilities");
         ProvisionAgent x = Agents.plain(10);
         for (int u = 0; u < 10; u++) {
             for (int i = 0; i < 3; i++) {
@@ -148,7 +149,6 @@ public final class TermsTest {
     }
 
     private static void offeredCapabilities() {
-        CHECK.sentence("each a number 0 .. 5 with a version 1 .. 9");
         for (int capability = 0; capability <= 5; capability++) {
             for (int version = 1; version <= 9; version++) {
                 ProvisionAgent x = Agents.plain(2);
@@ -162,7 +162,6 @@ public final class TermsTest {
     }
 
     private static void atMostThreeNeeds() {
-        CHECK.sentence("and has at most 3 NEEDS");
         ProvisionAgent x = Agents.plain(10);
         for (int u = 0; u < 10; u++) {
             for (int i = 0; i < 3; i++) {
@@ -176,7 +175,6 @@ public final class TermsTest {
     }
 
     private static void neededCapabilities() {
-        CHECK.sentence("A need asks for a capability 0 .. 5");
         for (int asked = 0; asked <= 5; asked++) {
             for (int offered = 0; offered <= 5; offered++) {
                 ProvisionAgent x = Agents.plain(2);
@@ -189,7 +187,6 @@ public final class TermsTest {
     }
 
     private static void neededRange() {
-        CHECK.sentence("with a version in a range low .. high");
         for (int low = 1; low <= 9; low++) {
             for (int high = low; high <= 9; high++) {
                 for (int version = 1; version <= 9; version++) {
@@ -204,7 +201,6 @@ public final class TermsTest {
     }
 
     private static void mayBeOptional() {
-        CHECK.sentence("may be OPTIONAL");
         for (int optional = 0; optional <= 1; optional++) {
             for (int i = 0; i < 3; i++) {
                 ProvisionAgent x = Agents.plain(1);
@@ -220,7 +216,6 @@ public final class TermsTest {
     }
 
     private static void conditions() {
-        CHECK.sentence("with 0 it always applies, with k > 0 only if bit k - 1 of the ENVIRONMENT");
         for (int condition = 0; condition <= 3; condition++) {
             ProvisionAgent x = Agents.plain(2);
             x.need(0, 8 * condition + 5, 1, 9);
@@ -236,7 +231,6 @@ public final class TermsTest {
     }
 
     private static void environmentAtFirst() {
-        CHECK.sentence("the ENVIRONMENT (0 .. 7, 0 at first)");
         ProvisionAgent x = Agents.plain(3);
         for (int condition = 1; condition <= 3; condition++) {
             x.need(condition - 1, 8 * condition, 1, 9);
@@ -252,7 +246,6 @@ public final class TermsTest {
     }
 
     private static void setsAsSums() {
-        CHECK.sentence("A set of units is written as the sum of 2^u over its members");
         for (int u = 0; u < 10; u++) {
             ProvisionAgent x = Agents.plain(10);
             due("unit " + u + " alone", x.plan(1 << u, 0), 1 << u);
@@ -265,7 +258,6 @@ public final class TermsTest {
     }
 
     private static void someMemberOffers() {
-        CHECK.sentence("it MEETS a need if some member offers the capability with a version in the range");
         ProvisionAgent x = Agents.plain(10);
         x.offer(0, 1, 1);
         x.offer(9, 1, 2);
@@ -284,7 +276,6 @@ public final class TermsTest {
     }
 
     private static void theUnitItselfMayOffer() {
-        CHECK.sentence("the unit with the need may be that member");
         ProvisionAgent x = Agents.plain(2);
         x.need(0, 4, 3, 3);
         due("before it offers", x.sound(1), 0);
@@ -297,7 +288,6 @@ public final class TermsTest {
     }
 
     private static void soundNames() {
-        CHECK.sentence("no two members have the same name with at least one of the two single");
         // Units 0 .. 3 share a name, and unit 2 is single; unit 4 is a single one of another name.
         ProvisionAgent x = new ProvisionAgent();
         for (int u = 0; u < 4; u++) {
@@ -311,7 +301,6 @@ public final class TermsTest {
     }
 
     private static void soundNeeds() {
-        CHECK.sentence("it meets every need of every member that applies and is not optional");
         // Of every unit and every place in turn, one need alone is not met.
         for (int u = 0; u < 10; u++) {
             for (int i = 0; i < 3; i++) {
@@ -344,7 +333,6 @@ public final class TermsTest {
     }
 
     private static void emptySetIsSound() {
-        CHECK.sentence("The empty set is sound.");
         due("without units", new ProvisionAgent().sound(0), 1);
         ProvisionAgent x = new ProvisionAgent();
         for (int u = 0; u < 9; u++) {
@@ -361,7 +349,6 @@ public final class TermsTest {
     }
 
     private static void profileIsEmptyAtFirst() {
-        CHECK.sentence("THE PROFILE is a set of units, empty at first.");
         ProvisionAgent x = new ProvisionAgent();
         due("a new object's", x.profile(), 0);
         for (int u = 0; u < 10; u++) {
@@ -371,7 +358,6 @@ public final class TermsTest {
     }
 
     private static void costOfNewMembers() {
-        CHECK.sentence("THE COST of a set is 5 for every member that is not in the profile");
         ProvisionAgent x = Agents.five();
         for (int size = 0; size <= 5; size++) {
             due("of " + size, x.cost((1 << size) - 1), 5 * size);
@@ -385,7 +371,6 @@ public final class TermsTest {
     }
 
     private static void costOfLostMembers() {
-        CHECK.sentence("plus 3 for every unit of the profile that is no member");
         ProvisionAgent x = Agents.plain(10);
         due("nothing to lose", x.cost(0), 0);
         x.apply(1023, 0);
@@ -398,7 +383,6 @@ public final class TermsTest {
     }
 
     private static void costOfOptions() {
-        CHECK.sentence("plus 2 for every need of a member that applies, is optional, and is not met");
         ProvisionAgent x = Agents.plain(10);
         for (int u = 0; u < 10; u++) {
             x.need(u, 32, 5, 5);
@@ -422,7 +406,6 @@ public final class TermsTest {
     }
 
     private static void costOfOldVersions() {
-        CHECK.sentence("the greatest version of a unit (of the list) with its name, less its own version");
         ProvisionAgent x = new ProvisionAgent();
         x.unit(3, 1, 0);
         due("the greatest itself", x.cost(1), 5);
@@ -445,7 +428,6 @@ public final class TermsTest {
     }
 
     private static void planIsSound() {
-        CHECK.sentence("THE PLAN for a request is, among the sound sets");
         ProvisionAgent x = new ProvisionAgent();
         x.unit(0, 1, 1);
         x.unit(0, 2, 0);
@@ -463,7 +445,6 @@ public final class TermsTest {
     }
 
     private static void planHoldsWantedAndNoBarred() {
-        CHECK.sentence("that contain all wanted units and no barred one");
         ProvisionAgent x = Agents.five();
         due("no unit asked", x.plan(0, 0), 0);
         due("all wanted", x.plan(31, 0), 31);
@@ -479,7 +460,6 @@ public final class TermsTest {
     }
 
     private static void planIsCheapest() {
-        CHECK.sentence("the one of least cost");
         // Unit 9 needs what units 0 .. 8 offer; of these the greatest version is the cheapest.
         ProvisionAgent x = new ProvisionAgent();
         for (int u = 0; u < 9; u++) {
@@ -501,7 +481,6 @@ public final class TermsTest {
     }
 
     private static void planHasTheLeastNumber() {
-        CHECK.sentence("and among those the one with the least number");
         due("of five that differ in number alone", fiveWaysAlike().plan(512, 0), 513);
         due("of the last two of them", fiveWaysAlike().plan(512, 7), 520);
         // Units 0 and 1 together cost what unit 2 costs alone: the lesser number has more members.
@@ -540,7 +519,6 @@ public final class TermsTest {
     }
 
     private static void outFallingThenInRising() {
-        CHECK.sentence("taken out, in falling order of numbers, then the units of it that are not in the profile are put in");
         int[] order = {8, 6, 4, 2, 0, 1, 3, 5, 7, 9};
         for (int k = 0; k < 10; k++) {
             ProvisionAgent x = Agents.plain(10);
@@ -555,7 +533,6 @@ public final class TermsTest {
     }
 
     private static void stepsAreNumberedFromZero() {
-        CHECK.sentence("each of these is a STEP, numbered 0, 1, 2, ...");
         for (int size = 0; size <= 10; size++) {
             ProvisionAgent x = Agents.plain(10);
             int set = (1 << size) - 1;
@@ -570,7 +547,6 @@ public final class TermsTest {
     }
 
     private static void becomesProfileAndIsNoted() {
-        CHECK.sentence("At the end the set becomes the profile, and the profile is noted at the end of the HISTORY");
         ProvisionAgent x = Agents.plain(10);
         int[] sets = {EVEN, ODD, 0, 1023, 512, 1};
         for (int i = 0; i < sets.length; i++) {
@@ -589,7 +565,6 @@ public final class TermsTest {
     }
 
     private static void firstNoteIsDropped() {
-        CHECK.sentence("the first note is dropped when there would be more than 8");
         ProvisionAgent x = Agents.plain(10);
         for (int made = 1; made <= 30; made++) {
             Agents.become(x, 31 * made);
@@ -611,7 +586,6 @@ public final class TermsTest {
     }
 
     private static void everyStepTouchesOnce() {
-        CHECK.sentence("Every step TOUCHES its unit once.");
         ProvisionAgent x = Agents.plain(10);
         Agents.become(x, EVEN);
         Agents.become(x, 1023);
@@ -625,7 +599,6 @@ public final class TermsTest {
     }
 
     private static void failedChangeIsUndone() {
-        CHECK.sentence("undone in reverse order, which touches their units once more; profile and history stay.");
         for (int k = 0; k < 10; k++) {
             ProvisionAgent x = Agents.plain(10);
             Agents.become(x, EVEN);
