@@ -1,4 +1,4 @@
-/** Agents made ready for a test, and arguments that are far from every limit. */
+/** Agents made ready for a test, and arguments beyond every range of the document. */
 final class Agents {
     static final int[] FAR = {
         Integer.MIN_VALUE, Integer.MIN_VALUE + 1, -1024, -64, -32, -8, -1, 1 << 11, 1 << 16, 1 << 30, Integer.MAX_VALUE

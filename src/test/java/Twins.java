@@ -62,8 +62,8 @@ final class Twins {
     }
 
     /**
-     * Some 350 calls, so that an agent stays below the 512 that it is good for. Those that are refused come last: if
-     * one of them changed what is seen after it, it would do so to both twins alike and hide their difference.
+     * Some 350 calls, so that an agent stays within the 512 that it may be used for. Those that are refused come last:
+     * if one of them changed what is seen after it, it would do so to both twins alike and hide their difference.
      */
     private static List<String> everything(ProvisionAgent x) {
         List<String> seen = new ArrayList<>();
