@@ -434,6 +434,40 @@ public final class BoundaryTest {
         }
         due("one barred for six wanted", x.excess(504, 1), 1);
         due("two barred for them and the last", x.excess(1016, 3), 2);
+        for (int wanted = 0; wanted < 16; wanted++) {
+            for (int barred = 0; barred < 16; barred++) {
+                due(wanted + " wanted, " + barred + " barred", fourAtOdds().excess(wanted, barred),
+                        leastGivenUp(wanted, barred));
+            }
+        }
+    }
+
+    /** Units 0 and 1 are rivals, and units 1 and 2 need what unit 3 offers. */
+    private static ProvisionAgent fourAtOdds() {
+        ProvisionAgent x = new ProvisionAgent();
+        x.unit(0, 1, 1);
+        x.unit(0, 2, 0);
+        x.unit(1, 1, 0);
+        x.unit(2, 1, 0);
+        x.offer(3, 0, 1);
+        x.need(1, 0, 1, 9);
+        x.need(2, 0, 1, 9);
+        return x;
+    }
+
+    /** Tries every part of the request's demands, as the sentence says it. */
+    private static int leastGivenUp(int wanted, int barred) {
+        ProvisionAgent x = fourAtOdds();
+        int least = Integer.MAX_VALUE;
+        for (int kept = 0; kept < 256; kept++) {
+            int wantedStill = wanted & kept;
+            int barredStill = barred & kept >> 4;
+            if (x.plan(wantedStill, barredStill) != -2) {
+                int givenUp = Integer.bitCount(wanted ^ wantedStill) + Integer.bitCount(barred ^ barredStill);
+                least = Math.min(least, givenUp);
+            }
+        }
+        return least;
     }
 
     private static void applyOfGoodSets() {
